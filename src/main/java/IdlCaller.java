@@ -972,7 +972,6 @@ public final class IdlCaller {
                 }
             }
             end = line.length;
-            at = 0;
             fault = NONE;
         }
 

@@ -130,6 +130,11 @@ public final class CallTest {
         takes(required, 0, "NULL; w0", UNDEFINED, UNDEFINED);
         takes(required, 1, "'x'; missing", "x", UNDEFINED);
 
+        IdlCaller first = Check.with("a(any, optional boolean)", "a(any, string)");
+        takes(first, 0, "null; missing", null, UNDEFINED);
+        takes(first, 1, "null; 'null'", null, null);
+        takes(first, 0, "null; missing", (Object) null);
+
         IdlCaller least = Check.with("a(any, boolean)", "a(any, long...)");
         takes(least, 1, "null; missing; missing", null, UNDEFINED, UNDEFINED);
         takes(least, 1, "null; missing", null, UNDEFINED);

@@ -105,6 +105,10 @@ public final class ConvertTest {
         becomes("enum(true,null)", UNDEFINED, REFUSED);
         becomes("enum(true,null)", 1.0, REFUSED);
         becomes("enum(abcdefgh)", "abcdefgh", "'abcdefgh'");
+        becomes("enum(a)", "abcdefghij", REFUSED);
+        becomes("enum(a)", "1", REFUSED);
+        becomes("enum(a)", "`a", REFUSED);
+        becomes("enum(az)", "bZ", REFUSED);
         becomes("enum(abcdefgh)", "abcdefghi", REFUSED);
         becomes("enum(red,green)", list("red"), "'red'");
         becomes("enum(red,green)", list("red", null), REFUSED);
@@ -145,6 +149,18 @@ public final class ConvertTest {
 
     private static void numbersOfLists() {
         becomes("double", list(), "d0.0");
+        IdlCaller x = Check.with("a(double, double, double)");
+        Check.tell(x, 0, "5");
+        Check.tell(x, 1, "");
+        Check.tellList(x, 2, "7");
+        Check.due("call", x.call(0, 3), 0);
+        Check.dueText("each VALUE has a NUMBER of its own", Check.showAll(x), "d5.0; d0.0; d7.0");
+        x.simple(2, 4);
+        Check.tell(x, 0, "x");
+        Check.due("call", x.call(0, 3), IdlCaller.KIND);
+        Check.tell(x, 0, "-1");
+        Check.due("call", x.call(0, 3), 0);
+        Check.dueText("and a new one has no part of the last", Check.showAll(x), "d-1.0; d0.0; d0.0");
         becomes("double", list(UNDEFINED), "d0.0");
         becomes("double", list((Object) null), "d0.0");
         becomes("double", list(5.5), "d5.5");

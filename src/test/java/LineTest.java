@@ -23,6 +23,9 @@ public final class LineTest {
         Check.due("what throws changes nothing", x.type(0, 0, 0, 0, 0), 96);
         Check.due("100", x.type(0, 0, 0, 0, 0x20202020), 100);
         Check.refusesState("101 by one", () -> x.type(0, 0, 1, 0, 0));
+        Check.refusesState("101 by the second", () -> x.type(0, 1 << 8, 0, 0, 0));
+        Check.refusesState("101 by the fourth", () -> x.type(0, 0, 0, 1 << 16, 0));
+        Check.refusesState("101 by the fifth", () -> x.type(0, 0, 0, 0, 1 << 24));
         Check.due("none more", x.type(0, 0, 0, 0, 0), 100);
         Check.due("define of 100 blanks", x.define(), IdlCaller.SIGN);
         Check.due("place behind 100 blanks", x.place(), 100);
