@@ -99,7 +99,7 @@ public final class IdlCaller {
         if (lastPlace != NONE) {
             return SAME;
         }
-        return defined.count >= FORMS ? FULL : defined.append(form);
+        return defined.append(form);
     }
 
     public int drop(int operation) throws IllegalArgumentException {
@@ -734,6 +734,7 @@ public final class IdlCaller {
             count = 0;
         }
 
+        /** The number that the FORM gets; FULL if there is no room. */
         int append(Form form) {
             if (count < 0 || count >= forms.length) {
                 return FULL;
