@@ -125,6 +125,10 @@ public final class ConvertTest {
         becomes("double", 2147483648.0, "d2.147483648E9");
         becomes("double", "2.75", "d2.75");
         becomes("double", "none", REFUSED);
+        // The comparison of texts tells the two zeros apart.
+        becomes("double", -0.0, "d-0.0");
+        becomes("any", -0.0, "d-0.0");
+        becomes("double", list(-0.0), "d0.0");
     }
 
     private static void numbersOfTexts() {
