@@ -1,6 +1,8 @@
 /** What the tests share: due answers, and calls told with texts instead of packed numbers. */
 final class Check {
     private static int wrong = 0;
+    private static int told = 0;
+    private static String about = "";
 
     private Check() {
     }
@@ -44,10 +46,18 @@ final class Check {
         return "nothing";
     }
 
+    /** What the complaints that come are about, in front of each. */
+    static void about(String what) {
+        about = what;
+        told = 0;
+    }
+
     static void complain(String what) {
         wrong++;
-        if (wrong <= 40) {
-            System.out.println(what);
+        told++;
+        // A few of a matter are enough to see what it is.
+        if (told <= (about.isEmpty() ? 40 : 5)) {
+            System.out.println(about + what);
         }
     }
 

@@ -1,8 +1,8 @@
 /** Promises 11 and 13 to 17: what VALUES are converted to, and what is asked of it. */
 public final class ConvertTest {
     private static final int NONE = IdlCaller.NONE;
-    private static final Object UNDEFINED = new Object();
-    private static final String REFUSED = "refused";
+    private static final Object UNDEFINED = Expect.UNDEFINED;
+    private static final String REFUSED = Expect.REFUSED;
 
     public static void main(String[] args) {
         booleans();
@@ -22,113 +22,96 @@ public final class ConvertTest {
         Check.end("ConvertTest");
     }
 
-    private static Object[] list(Object... values) {
-        return values;
-    }
-
-    /** What the VALUE becomes for a FORM with one ARGUMENT of the TYPE. */
-    private static void becomes(String type, Object value, String due) {
-        IdlCaller x = Check.with("a(" + type + ")");
-        if (value instanceof Object[] values) {
-            Check.tellList(x, 0, values);
-        } else {
-            Check.tellAny(x, 0, value);
-        }
-        int form = x.call(0, 1);
-        Check.due("place", x.place(), form == 0 ? NONE : 0);
-        Check.dueText(value + " as " + type, form == 0 ? Check.show(x, 0) : REFUSED, due);
-    }
-
     private static void booleans() {
-        becomes("boolean", UNDEFINED, "false");
-        becomes("boolean", null, "false");
-        becomes("boolean", false, "false");
-        becomes("boolean", true, "true");
-        becomes("boolean", 0.0, "false");
-        becomes("boolean", -0.0, "false");
-        becomes("boolean", 0.125, "true");
-        becomes("boolean", -1.0, "true");
-        becomes("boolean", "", "false");
-        becomes("boolean", " ", "true");
-        becomes("boolean", "0", "true");
-        becomes("boolean", "false", "true");
-        becomes("boolean", list(), "true");
-        becomes("boolean", list(0.0), "true");
+        Expect.becomes("boolean", UNDEFINED, "false");
+        Expect.becomes("boolean", null, "false");
+        Expect.becomes("boolean", false, "false");
+        Expect.becomes("boolean", true, "true");
+        Expect.becomes("boolean", 0.0, "false");
+        Expect.becomes("boolean", -0.0, "false");
+        Expect.becomes("boolean", 0.125, "true");
+        Expect.becomes("boolean", -1.0, "true");
+        Expect.becomes("boolean", "", "false");
+        Expect.becomes("boolean", " ", "true");
+        Expect.becomes("boolean", "0", "true");
+        Expect.becomes("boolean", "false", "true");
+        Expect.becomes("boolean", Expect.list(), "true");
+        Expect.becomes("boolean", Expect.list(0.0), "true");
     }
 
     private static void texts() {
-        becomes("string", UNDEFINED, "'undefined'");
-        becomes("string", null, "'null'");
-        becomes("string", true, "'true'");
-        becomes("string", false, "'false'");
-        becomes("string", "a text of 12", "'a text of 12'");
-        becomes("string", "", "''");
-        becomes("string", 0.0, "'0'");
-        becomes("string", -0.0, "'0'");
-        becomes("string", 7.0, "'7'");
-        becomes("string", -7.0, "'-7'");
-        becomes("string", 10.0, "'10'");
-        becomes("string", 1000000.0, "'1000000'");
-        becomes("string", 0.5, "'0.5'");
-        becomes("string", -0.5, "'-0.5'");
-        becomes("string", 0.125, "'0.125'");
-        becomes("string", 0.25, "'0.25'");
-        becomes("string", 0.375, "'0.375'");
-        becomes("string", 0.625, "'0.625'");
-        becomes("string", 0.75, "'0.75'");
-        becomes("string", -100.875, "'-100.875'");
-        becomes("string", 2147483648.0, "'2147483648'");
-        becomes("string", -2147483648.0, "'-2147483648'");
-        becomes("string", -2147483647.875, "'-2147483647.875'");
-        becomes("string", list(), "''");
-        becomes("string", list(null, UNDEFINED), "','");
-        becomes("string", list(1.5, null, "x,y", true, UNDEFINED), "'1.5,,x,y,true,'");
-        becomes("string", list(UNDEFINED), "''");
-        becomes("string", list(-2147483647.875, -2147483647.875, -2147483647.875, -2147483647.875, -2147483647.875),
+        Expect.becomes("string", UNDEFINED, "'undefined'");
+        Expect.becomes("string", null, "'null'");
+        Expect.becomes("string", true, "'true'");
+        Expect.becomes("string", false, "'false'");
+        Expect.becomes("string", "a text of 12", "'a text of 12'");
+        Expect.becomes("string", "", "''");
+        Expect.becomes("string", 0.0, "'0'");
+        Expect.becomes("string", -0.0, "'0'");
+        Expect.becomes("string", 7.0, "'7'");
+        Expect.becomes("string", -7.0, "'-7'");
+        Expect.becomes("string", 10.0, "'10'");
+        Expect.becomes("string", 1000000.0, "'1000000'");
+        Expect.becomes("string", 0.5, "'0.5'");
+        Expect.becomes("string", -0.5, "'-0.5'");
+        Expect.becomes("string", 0.125, "'0.125'");
+        Expect.becomes("string", 0.25, "'0.25'");
+        Expect.becomes("string", 0.375, "'0.375'");
+        Expect.becomes("string", 0.625, "'0.625'");
+        Expect.becomes("string", 0.75, "'0.75'");
+        Expect.becomes("string", -100.875, "'-100.875'");
+        Expect.becomes("string", 2147483648.0, "'2147483648'");
+        Expect.becomes("string", -2147483648.0, "'-2147483648'");
+        Expect.becomes("string", -2147483647.875, "'-2147483647.875'");
+        Expect.becomes("string", Expect.list(), "''");
+        Expect.becomes("string", Expect.list(null, UNDEFINED), "','");
+        Expect.becomes("string", Expect.list(1.5, null, "x,y", true, UNDEFINED), "'1.5,,x,y,true,'");
+        Expect.becomes("string", Expect.list(UNDEFINED), "''");
+        Expect.becomes("string", Expect.list(-2147483647.875, -2147483647.875, -2147483647.875, -2147483647.875, -2147483647.875),
                 "'-2147483647.875,-2147483647.875,-2147483647.875,-2147483647.875,-2147483647.875'");
     }
 
     private static void enums() {
-        becomes("enum(red,green)", "red", "'red'");
-        becomes("enum(red,green)", "green", "'green'");
-        becomes("enum(red,green)", "blue", REFUSED);
-        becomes("enum(red,green)", "re", REFUSED);
-        becomes("enum(red,green)", "redd", REFUSED);
-        becomes("enum(red,green)", " red", REFUSED);
-        becomes("enum(red,green)", "Red", REFUSED);
-        becomes("enum(red,green)", "", REFUSED);
-        becomes("enum(red,green)", "redgreenblue", REFUSED);
-        becomes("enum(true,null)", true, "'true'");
-        becomes("enum(true,null)", false, REFUSED);
-        becomes("enum(true,null)", null, "'null'");
-        becomes("enum(true,null)?", null, "NULL");
-        becomes("enum(true,null)", UNDEFINED, REFUSED);
-        becomes("enum(true,null)", 1.0, REFUSED);
-        becomes("enum(abcdefgh)", "abcdefgh", "'abcdefgh'");
-        becomes("enum(a)", "abcdefghij", REFUSED);
-        becomes("enum(a)", "1", REFUSED);
-        becomes("enum(a)", "`a", REFUSED);
-        becomes("enum(az)", "bZ", REFUSED);
-        becomes("enum(abcdefgh)", "abcdefghi", REFUSED);
-        becomes("enum(red,green)", list("red"), "'red'");
-        becomes("enum(red,green)", list("red", null), REFUSED);
-        becomes("enum(a,b,c,d,e)", "e", "'e'");
-        becomes("enum(a,b,c,d,e)", "f", REFUSED);
+        Expect.becomes("enum(red,green)", "red", "'red'");
+        Expect.becomes("enum(red,green)", "green", "'green'");
+        Expect.becomes("enum(red,green)", "blue", REFUSED);
+        Expect.becomes("enum(red,green)", "re", REFUSED);
+        Expect.becomes("enum(red,green)", "redd", REFUSED);
+        Expect.becomes("enum(red,green)", " red", REFUSED);
+        Expect.becomes("enum(red,green)", "Red", REFUSED);
+        Expect.becomes("enum(red,green)", "", REFUSED);
+        Expect.becomes("enum(red,green)", "redgreenblue", REFUSED);
+        Expect.becomes("enum(true,null)", true, "'true'");
+        Expect.becomes("enum(true,null)", false, REFUSED);
+        Expect.becomes("enum(true,null)", null, "'null'");
+        Expect.becomes("enum(true,null)?", null, "NULL");
+        Expect.becomes("enum(true,null)", UNDEFINED, REFUSED);
+        Expect.becomes("enum(true,null)", 1.0, REFUSED);
+        Expect.becomes("enum(abcdefgh)", "abcdefgh", "'abcdefgh'");
+        Expect.becomes("enum(a)", "abcdefghij", REFUSED);
+        Expect.becomes("enum(a)", "1", REFUSED);
+        Expect.becomes("enum(a)", "`a", REFUSED);
+        Expect.becomes("enum(az)", "bZ", REFUSED);
+        Expect.becomes("enum(abcdefgh)", "abcdefghi", REFUSED);
+        Expect.becomes("enum(red,green)", Expect.list("red"), "'red'");
+        Expect.becomes("enum(red,green)", Expect.list("red", null), REFUSED);
+        Expect.becomes("enum(a,b,c,d,e)", "e", "'e'");
+        Expect.becomes("enum(a,b,c,d,e)", "f", REFUSED);
     }
 
     private static void doubles() {
-        becomes("double", UNDEFINED, REFUSED);
-        becomes("double", null, "d0.0");
-        becomes("double", true, "d1.0");
-        becomes("double", false, "d0.0");
-        becomes("double", -1.125, "d-1.125");
-        becomes("double", 2147483648.0, "d2.147483648E9");
-        becomes("double", "2.75", "d2.75");
-        becomes("double", "none", REFUSED);
+        Expect.becomes("double", UNDEFINED, REFUSED);
+        Expect.becomes("double", null, "d0.0");
+        Expect.becomes("double", true, "d1.0");
+        Expect.becomes("double", false, "d0.0");
+        Expect.becomes("double", -1.125, "d-1.125");
+        Expect.becomes("double", 2147483648.0, "d2.147483648E9");
+        Expect.becomes("double", "2.75", "d2.75");
+        Expect.becomes("double", "none", REFUSED);
         // The comparison of texts tells the two zeros apart.
-        becomes("double", -0.0, "d-0.0");
-        becomes("any", -0.0, "d-0.0");
-        becomes("double", list(-0.0), "d0.0");
+        Expect.becomes("double", -0.0, "d-0.0");
+        Expect.becomes("any", -0.0, "d-0.0");
+        Expect.becomes("double", Expect.list(-0.0), "d0.0");
     }
 
     private static void numbersOfTexts() {
@@ -138,21 +121,21 @@ public final class ConvertTest {
             {"-99999999999", "-9.9999999999E10"}, {"1.10", "1.1"}, {"0x0", "0.0"}, {"0x1f", "31.0"}, {"0xABCDEF", "1.1259375E7"},
             {"0xabcdef", "1.1259375E7"}, {"0xffffffff", "4.294967295E9"}, {" 0x1F ", "31.0"}, {"0x00000010", "16.0"}};
         for (String[] row : due) {
-            becomes("double", row[0], "d" + row[1]);
+            Expect.becomes("double", row[0], "d" + row[1]);
         }
         String[] none = {"x", "+", "-", ".", "5.", ".5", "+.5", "-.5", "1.2.3", "1e3", "1,5", "- 5", "5 5", "+-5", "--5",
             "0x", "0X1", "0xg", "0x123456789", "-0x1", "+0x1", "0x 1", "0x-1", "0x1.5", "x1", "0x1x", "\t5", "5\t",
             "\u00a05", "true", "null", "Infinity", "5.a", "1..2", "1.+2", "/", ":", "0x@", "0xG", "0x`", "1:", "5-"};
         for (String text : none) {
-            becomes("double", text, REFUSED);
-            becomes("long", text, "w0");
-            becomes("[C]long", text, "w0");
-            becomes("[E]long", text, REFUSED);
+            Expect.becomes("double", text, REFUSED);
+            Expect.becomes("long", text, "w0");
+            Expect.becomes("[C]long", text, "w0");
+            Expect.becomes("[E]long", text, REFUSED);
         }
     }
 
     private static void numbersOfLists() {
-        becomes("double", list(), "d0.0");
+        Expect.becomes("double", Expect.list(), "d0.0");
         IdlCaller x = Check.with("a(double, double, double)");
         Check.tell(x, 0, "5");
         Check.tell(x, 1, "");
@@ -165,158 +148,158 @@ public final class ConvertTest {
         Check.tell(x, 0, "-1");
         Check.due("call", x.call(0, 3), 0);
         Check.dueText("and a new one has no part of the last", Check.showAll(x), "d-1.0; d0.0; d0.0");
-        becomes("double", list(UNDEFINED), "d0.0");
-        becomes("double", list((Object) null), "d0.0");
-        becomes("double", list(5.5), "d5.5");
-        becomes("double", list(-2147483647.875), "d-2.147483647875E9");
-        becomes("double", list(" 0x1f "), "d31.0");
-        becomes("double", list("  "), "d0.0");
-        becomes("double", list(true), REFUSED);
-        becomes("double", list("x"), REFUSED);
-        becomes("double", list(1.0, 2.0), REFUSED);
-        becomes("double", list(null, null), REFUSED);
-        becomes("double", list(1.0, UNDEFINED), REFUSED);
-        becomes("long", list(1.0, 2.0), "w0");
-        becomes("[E]octet", list(), "w0");
-        becomes("[E]octet", list("1", "2"), REFUSED);
+        Expect.becomes("double", Expect.list(UNDEFINED), "d0.0");
+        Expect.becomes("double", Expect.list((Object) null), "d0.0");
+        Expect.becomes("double", Expect.list(5.5), "d5.5");
+        Expect.becomes("double", Expect.list(-2147483647.875), "d-2.147483647875E9");
+        Expect.becomes("double", Expect.list(" 0x1f "), "d31.0");
+        Expect.becomes("double", Expect.list("  "), "d0.0");
+        Expect.becomes("double", Expect.list(true), REFUSED);
+        Expect.becomes("double", Expect.list("x"), REFUSED);
+        Expect.becomes("double", Expect.list(1.0, 2.0), REFUSED);
+        Expect.becomes("double", Expect.list(null, null), REFUSED);
+        Expect.becomes("double", Expect.list(1.0, UNDEFINED), REFUSED);
+        Expect.becomes("long", Expect.list(1.0, 2.0), "w0");
+        Expect.becomes("[E]octet", Expect.list(), "w0");
+        Expect.becomes("[E]octet", Expect.list("1", "2"), REFUSED);
     }
 
     private static void wrapped() {
-        becomes("byte", 127.0, "w127");
-        becomes("byte", 128.0, "w-128");
-        becomes("byte", -128.0, "w-128");
-        becomes("byte", -129.0, "w127");
-        becomes("byte", 255.875, "w-1");
-        becomes("byte", -0.875, "w0");
-        becomes("byte", 256.0, "w0");
-        becomes("octet", 255.0, "w255");
-        becomes("octet", 256.0, "w0");
-        becomes("octet", -1.0, "w255");
-        becomes("octet", -0.5, "w0");
-        becomes("octet", -256.0, "w0");
-        becomes("short", 32767.0, "w32767");
-        becomes("short", 32768.0, "w-32768");
-        becomes("short", -32769.0, "w32767");
-        becomes("short", 65536.0, "w0");
-        becomes("long", 2147483647.875, "w2147483647");
-        becomes("long", 2147483648.0, "w-2147483648");
-        becomes("long", -2147483648.0, "w-2147483648");
-        becomes("long", "-2147483649", "w2147483647");
-        becomes("long", "0xffffffff", "w-1");
-        becomes("long", "4294967296", "w0");
-        becomes("long", "-4294967297", "w-1");
-        becomes("long", "999999999999", "w-727379969");
-        becomes("long", "3.99", "w3");
-        becomes("long", "-3.99", "w-3");
-        becomes("long", UNDEFINED, "w0");
-        becomes("long", null, "w0");
-        becomes("long", true, "w1");
+        Expect.becomes("byte", 127.0, "w127");
+        Expect.becomes("byte", 128.0, "w-128");
+        Expect.becomes("byte", -128.0, "w-128");
+        Expect.becomes("byte", -129.0, "w127");
+        Expect.becomes("byte", 255.875, "w-1");
+        Expect.becomes("byte", -0.875, "w0");
+        Expect.becomes("byte", 256.0, "w0");
+        Expect.becomes("octet", 255.0, "w255");
+        Expect.becomes("octet", 256.0, "w0");
+        Expect.becomes("octet", -1.0, "w255");
+        Expect.becomes("octet", -0.5, "w0");
+        Expect.becomes("octet", -256.0, "w0");
+        Expect.becomes("short", 32767.0, "w32767");
+        Expect.becomes("short", 32768.0, "w-32768");
+        Expect.becomes("short", -32769.0, "w32767");
+        Expect.becomes("short", 65536.0, "w0");
+        Expect.becomes("long", 2147483647.875, "w2147483647");
+        Expect.becomes("long", 2147483648.0, "w-2147483648");
+        Expect.becomes("long", -2147483648.0, "w-2147483648");
+        Expect.becomes("long", "-2147483649", "w2147483647");
+        Expect.becomes("long", "0xffffffff", "w-1");
+        Expect.becomes("long", "4294967296", "w0");
+        Expect.becomes("long", "-4294967297", "w-1");
+        Expect.becomes("long", "999999999999", "w-727379969");
+        Expect.becomes("long", "3.99", "w3");
+        Expect.becomes("long", "-3.99", "w-3");
+        Expect.becomes("long", UNDEFINED, "w0");
+        Expect.becomes("long", null, "w0");
+        Expect.becomes("long", true, "w1");
     }
 
     private static void enforced() {
-        becomes("[E]byte", 127.875, "w127");
-        becomes("[E]byte", 128.0, REFUSED);
-        becomes("[E]byte", -128.875, "w-128");
-        becomes("[E]byte", -129.0, REFUSED);
-        becomes("[E]octet", 255.875, "w255");
-        becomes("[E]octet", 256.0, REFUSED);
-        becomes("[E]octet", -0.875, "w0");
-        becomes("[E]octet", -1.0, REFUSED);
-        becomes("[E]short", 32767.0, "w32767");
-        becomes("[E]short", 32768.0, REFUSED);
-        becomes("[E]short", -32768.0, "w-32768");
-        becomes("[E]short", -32769.0, REFUSED);
-        becomes("[E]long", 2147483647.875, "w2147483647");
-        becomes("[E]long", 2147483648.0, REFUSED);
-        becomes("[E]long", -2147483648.0, "w-2147483648");
-        becomes("[E]long", "-2147483649", REFUSED);
-        becomes("[E]long", "0x80000000", REFUSED);
-        becomes("[E]long", UNDEFINED, REFUSED);
-        becomes("[E]long", null, "w0");
-        becomes("[E]long", false, "w0");
-        becomes("[E]long?", UNDEFINED, "NULL");
+        Expect.becomes("[E]byte", 127.875, "w127");
+        Expect.becomes("[E]byte", 128.0, REFUSED);
+        Expect.becomes("[E]byte", -128.875, "w-128");
+        Expect.becomes("[E]byte", -129.0, REFUSED);
+        Expect.becomes("[E]octet", 255.875, "w255");
+        Expect.becomes("[E]octet", 256.0, REFUSED);
+        Expect.becomes("[E]octet", -0.875, "w0");
+        Expect.becomes("[E]octet", -1.0, REFUSED);
+        Expect.becomes("[E]short", 32767.0, "w32767");
+        Expect.becomes("[E]short", 32768.0, REFUSED);
+        Expect.becomes("[E]short", -32768.0, "w-32768");
+        Expect.becomes("[E]short", -32769.0, REFUSED);
+        Expect.becomes("[E]long", 2147483647.875, "w2147483647");
+        Expect.becomes("[E]long", 2147483648.0, REFUSED);
+        Expect.becomes("[E]long", -2147483648.0, "w-2147483648");
+        Expect.becomes("[E]long", "-2147483649", REFUSED);
+        Expect.becomes("[E]long", "0x80000000", REFUSED);
+        Expect.becomes("[E]long", UNDEFINED, REFUSED);
+        Expect.becomes("[E]long", null, "w0");
+        Expect.becomes("[E]long", false, "w0");
+        Expect.becomes("[E]long?", UNDEFINED, "NULL");
     }
 
     private static void clamped() {
-        becomes("[C]byte", 127.5, "w127");
-        becomes("[C]byte", 500.0, "w127");
-        becomes("[C]byte", -128.5, "w-128");
-        becomes("[C]byte", -500.0, "w-128");
-        becomes("[C]octet", -0.5, "w0");
-        becomes("[C]octet", -7.0, "w0");
-        becomes("[C]octet", 254.5, "w254");
-        becomes("[C]octet", 255.5, "w255");
-        becomes("[C]short", 40000.0, "w32767");
-        becomes("[C]short", -40000.0, "w-32768");
-        becomes("[C]long", 2147483648.0, "w2147483647");
-        becomes("[C]long", "-99999999999", "w-2147483648");
-        becomes("[C]long", 0.5, "w0");
-        becomes("[C]long", 1.5, "w2");
-        becomes("[C]long", 2.5, "w2");
-        becomes("[C]long", 3.5, "w4");
-        becomes("[C]long", -0.5, "w0");
-        becomes("[C]long", -1.5, "w-2");
-        becomes("[C]long", -2.5, "w-2");
-        becomes("[C]long", -3.5, "w-4");
-        becomes("[C]long", 2.375, "w2");
-        becomes("[C]long", 2.625, "w3");
-        becomes("[C]long", -2.375, "w-2");
-        becomes("[C]long", -2.625, "w-3");
-        becomes("[C]long", "0.4999999999", "w0");
-        becomes("[C]long", "2.5000000001", "w3");
-        becomes("[C]long", UNDEFINED, "w0");
-        becomes("[C]long", null, "w0");
+        Expect.becomes("[C]byte", 127.5, "w127");
+        Expect.becomes("[C]byte", 500.0, "w127");
+        Expect.becomes("[C]byte", -128.5, "w-128");
+        Expect.becomes("[C]byte", -500.0, "w-128");
+        Expect.becomes("[C]octet", -0.5, "w0");
+        Expect.becomes("[C]octet", -7.0, "w0");
+        Expect.becomes("[C]octet", 254.5, "w254");
+        Expect.becomes("[C]octet", 255.5, "w255");
+        Expect.becomes("[C]short", 40000.0, "w32767");
+        Expect.becomes("[C]short", -40000.0, "w-32768");
+        Expect.becomes("[C]long", 2147483648.0, "w2147483647");
+        Expect.becomes("[C]long", "-99999999999", "w-2147483648");
+        Expect.becomes("[C]long", 0.5, "w0");
+        Expect.becomes("[C]long", 1.5, "w2");
+        Expect.becomes("[C]long", 2.5, "w2");
+        Expect.becomes("[C]long", 3.5, "w4");
+        Expect.becomes("[C]long", -0.5, "w0");
+        Expect.becomes("[C]long", -1.5, "w-2");
+        Expect.becomes("[C]long", -2.5, "w-2");
+        Expect.becomes("[C]long", -3.5, "w-4");
+        Expect.becomes("[C]long", 2.375, "w2");
+        Expect.becomes("[C]long", 2.625, "w3");
+        Expect.becomes("[C]long", -2.375, "w-2");
+        Expect.becomes("[C]long", -2.625, "w-3");
+        Expect.becomes("[C]long", "0.4999999999", "w0");
+        Expect.becomes("[C]long", "2.5000000001", "w3");
+        Expect.becomes("[C]long", UNDEFINED, "w0");
+        Expect.becomes("[C]long", null, "w0");
     }
 
     private static void nullables() {
         for (String type : new String[] {"boolean", "[C]byte", "[E]long", "double", "string", "enum(a)", "list<long>"}) {
-            becomes(type + "?", UNDEFINED, "NULL");
-            becomes(type + "?", null, "NULL");
-            becomes("optional " + type + "?", UNDEFINED, "missing");
-            becomes("optional " + type + "?", null, "NULL");
-            becomes(type + "?...", UNDEFINED, "missing");
-            becomes(type + "?...", null, "NULL");
-            becomes("optional " + type, UNDEFINED, "missing");
+            Expect.becomes(type + "?", UNDEFINED, "NULL");
+            Expect.becomes(type + "?", null, "NULL");
+            Expect.becomes("optional " + type + "?", UNDEFINED, "missing");
+            Expect.becomes("optional " + type + "?", null, "NULL");
+            Expect.becomes(type + "?...", UNDEFINED, "missing");
+            Expect.becomes(type + "?...", null, "NULL");
+            Expect.becomes("optional " + type, UNDEFINED, "missing");
         }
-        becomes("boolean?", "", "false");
-        becomes("double?", "", "d0.0");
-        becomes("optional any", UNDEFINED, "missing");
-        becomes("any...", UNDEFINED, "missing");
-        becomes("optional any", null, "null");
-        becomes("optional double", null, "d0.0");
-        becomes("optional list<long>", null, REFUSED);
+        Expect.becomes("boolean?", "", "false");
+        Expect.becomes("double?", "", "d0.0");
+        Expect.becomes("optional any", UNDEFINED, "missing");
+        Expect.becomes("any...", UNDEFINED, "missing");
+        Expect.becomes("optional any", null, "null");
+        Expect.becomes("optional double", null, "d0.0");
+        Expect.becomes("optional list<long>", null, REFUSED);
     }
 
     private static void lists() {
-        becomes("list<long>", list(), "[]");
-        becomes("list<long>", list(1.5, null, UNDEFINED, "12", true), "[w1 w0 w0 w12 w1]");
-        becomes("list<long?>", list(1.5, null, UNDEFINED), "[w1 NULL NULL]");
-        becomes("optional list<long>", list(UNDEFINED), "[w0]");
-        becomes("list<string>...", list(UNDEFINED, null, -1.25), "['undefined' 'null' '-1.25']");
-        becomes("list<boolean>", list(UNDEFINED, 0.0, "", " ", true), "[false false false true true]");
-        becomes("list<double>", list("1.5", false, null), "[d1.5 d0.0 d0.0]");
-        becomes("list<double>", list("1.5", UNDEFINED), REFUSED);
-        becomes("list<double?>", list("1.5", UNDEFINED), "[d1.5 NULL]");
-        becomes("list<enum(a,b)>", list("b", "a", "a"), "['b' 'a' 'a']");
-        becomes("list<enum(a,b)>", list("b", "c"), REFUSED);
-        becomes("list<[E]byte>", list(127.0, 128.0), REFUSED);
-        becomes("list<[C]byte>", list(127.5, 128.0, -3.5), "[w127 w127 w-4]");
-        becomes("list<any>", list(UNDEFINED, null, true, 2.5, "x"), "[undefined null true d2.5 'x']");
+        Expect.becomes("list<long>", Expect.list(), "[]");
+        Expect.becomes("list<long>", Expect.list(1.5, null, UNDEFINED, "12", true), "[w1 w0 w0 w12 w1]");
+        Expect.becomes("list<long?>", Expect.list(1.5, null, UNDEFINED), "[w1 NULL NULL]");
+        Expect.becomes("optional list<long>", Expect.list(UNDEFINED), "[w0]");
+        Expect.becomes("list<string>...", Expect.list(UNDEFINED, null, -1.25), "['undefined' 'null' '-1.25']");
+        Expect.becomes("list<boolean>", Expect.list(UNDEFINED, 0.0, "", " ", true), "[false false false true true]");
+        Expect.becomes("list<double>", Expect.list("1.5", false, null), "[d1.5 d0.0 d0.0]");
+        Expect.becomes("list<double>", Expect.list("1.5", UNDEFINED), REFUSED);
+        Expect.becomes("list<double?>", Expect.list("1.5", UNDEFINED), "[d1.5 NULL]");
+        Expect.becomes("list<enum(a,b)>", Expect.list("b", "a", "a"), "['b' 'a' 'a']");
+        Expect.becomes("list<enum(a,b)>", Expect.list("b", "c"), REFUSED);
+        Expect.becomes("list<[E]byte>", Expect.list(127.0, 128.0), REFUSED);
+        Expect.becomes("list<[C]byte>", Expect.list(127.5, 128.0, -3.5), "[w127 w127 w-4]");
+        Expect.becomes("list<any>", Expect.list(UNDEFINED, null, true, 2.5, "x"), "[undefined null true d2.5 'x']");
         for (Object value : new Object[] {UNDEFINED, null, true, false, 5.0, "", "x"}) {
-            becomes("list<any>", value, REFUSED);
+            Expect.becomes("list<any>", value, REFUSED);
         }
-        becomes("list<any>?", 5.0, REFUSED);
+        Expect.becomes("list<any>?", 5.0, REFUSED);
     }
 
     private static void anything() {
-        becomes("any", UNDEFINED, "undefined");
-        becomes("any", null, "null");
-        becomes("any", true, "true");
-        becomes("any", false, "false");
-        becomes("any", -5.5, "d-5.5");
-        becomes("any", "12", "'12'");
-        becomes("any", list(), "[]");
-        becomes("any", list(1.0, UNDEFINED, null, "x", false), "[d1.0 undefined null 'x' false]");
+        Expect.becomes("any", UNDEFINED, "undefined");
+        Expect.becomes("any", null, "null");
+        Expect.becomes("any", true, "true");
+        Expect.becomes("any", false, "false");
+        Expect.becomes("any", -5.5, "d-5.5");
+        Expect.becomes("any", "12", "'12'");
+        Expect.becomes("any", Expect.list(), "[]");
+        Expect.becomes("any", Expect.list(1.0, UNDEFINED, null, "x", false), "[d1.0 undefined null 'x' false]");
     }
 
     private static void snapshot() {

@@ -14,28 +14,8 @@ public final class SameTest {
         Check.end("SameTest");
     }
 
-    private static void told(String... forms) {
-        IdlCaller x = new IdlCaller();
-        for (int i = 0; i < forms.length; i++) {
-            Check.due("define of " + forms[i] + " as " + i, Check.define(x, forms[i]), i);
-            Check.due("place after it", x.place(), NONE);
-        }
-    }
-
-    /** The last one of the FORMS is refused with n. */
-    private static void same(int n, String... forms) {
-        IdlCaller x = new IdlCaller();
-        int last = forms.length - 1;
-        for (int i = 0; i < last; i++) {
-            Check.due("define of " + forms[i] + " as " + i, Check.define(x, forms[i]), i);
-        }
-        Check.due("define of " + forms[last] + " behind " + forms[last - 1], Check.define(x, forms[last]), IdlCaller.SAME);
-        Check.due("n of " + forms[last], x.place(), n);
-        Check.due("FORMS are as many as before", x.operation(0, 0), last);
-    }
-
     private static void numbersOfForms() {
-        told("a()", "a(long)", "a(long, long)", "a(long, long, long)");
+        Expect.told("a()", "a(long)", "a(long, long)", "a(long, long, long)");
         IdlCaller x = Check.with("a()", "b()", "a(long)");
         Check.due("the number is of its OPERATION", Check.define(x, "b(long)"), 1);
         Check.due("the same FORM of another OPERATION", Check.define(x, "f(long)"), 0);
@@ -52,79 +32,79 @@ public final class SameTest {
                     }
                 }
             }
-            same(1, "a(any)", "a(" + sorts[i][0] + ")");
-            same(1, "a(" + sorts[i][0] + "?)", "a(any)");
+            Expect.same(1, "a(any)", "a(" + sorts[i][0] + ")");
+            Expect.same(1, "a(" + sorts[i][0] + "?)", "a(any)");
         }
-        same(1, "a(any)", "a(any)");
+        Expect.same(1, "a(any)", "a(any)");
     }
 
     private static void twoTypes(boolean distinct, String one, String other) {
         if (distinct) {
-            told("a(" + one + ")", "a(" + other + ")");
-            told("a(" + one + "?)", "a(" + other + ")");
-            told("a(" + one + ")", "a(" + other + "?)");
+            Expect.told("a(" + one + ")", "a(" + other + ")");
+            Expect.told("a(" + one + "?)", "a(" + other + ")");
+            Expect.told("a(" + one + ")", "a(" + other + "?)");
         } else {
-            same(1, "a(" + one + ")", "a(" + other + ")");
+            Expect.same(1, "a(" + one + ")", "a(" + other + ")");
         }
-        same(1, "a(" + one + "?)", "a(" + other + "?)");
+        Expect.same(1, "a(" + one + "?)", "a(" + other + "?)");
     }
 
     private static void argumentsBefore() {
-        told("a(long, string)", "a(long, boolean)");
-        told("a(any, any, string)", "a(any, any, boolean)");
-        told("a(enum(x,y), list<long?>?, string)", "a(enum(x,y), list<long?>?, boolean)");
-        told("a([C]byte?, string)", "a([C]byte?, long)");
-        same(2, "a(long, string)", "a(double, boolean)");
-        same(2, "a([C]long, string)", "a(long, boolean)");
-        same(2, "a([C]long, string)", "a([E]long, boolean)");
-        same(2, "a(long?, string)", "a(long, boolean)");
-        same(2, "a(enum(x,y), string)", "a(enum(y,x), boolean)");
-        same(2, "a(enum(x,y), string)", "a(enum(x), boolean)");
-        same(2, "a(enum(x), string)", "a(enum(x,y), boolean)");
-        same(2, "a(enum(x), string)", "a(enum(y), boolean)");
-        same(2, "a(list<long>, string)", "a(list<short>, boolean)");
-        same(2, "a(list<long>, string)", "a(list<long?>, boolean)");
-        same(2, "a(list<long>, string)", "a(list<[C]long>, boolean)");
-        same(2, "a(list<long>, string)", "a(list<long>?, boolean)");
-        same(2, "a(list<enum(x)>, string)", "a(list<enum(y)>, boolean)");
-        same(2, "a(long, string)", "a(optional long, optional boolean)");
-        same(2, "a(long, boolean, boolean)", "a(long, long)", "a(long, short)");
-        told("a(string, any)", "a(long, any)");
-        told("a(string, long)", "a(long, string, string)", "a(boolean, long)");
+        Expect.told("a(long, string)", "a(long, boolean)");
+        Expect.told("a(any, any, string)", "a(any, any, boolean)");
+        Expect.told("a(enum(x,y), list<long?>?, string)", "a(enum(x,y), list<long?>?, boolean)");
+        Expect.told("a([C]byte?, string)", "a([C]byte?, long)");
+        Expect.same(2, "a(long, string)", "a(double, boolean)");
+        Expect.same(2, "a([C]long, string)", "a(long, boolean)");
+        Expect.same(2, "a([C]long, string)", "a([E]long, boolean)");
+        Expect.same(2, "a(long?, string)", "a(long, boolean)");
+        Expect.same(2, "a(enum(x,y), string)", "a(enum(y,x), boolean)");
+        Expect.same(2, "a(enum(x,y), string)", "a(enum(x), boolean)");
+        Expect.same(2, "a(enum(x), string)", "a(enum(x,y), boolean)");
+        Expect.same(2, "a(enum(x), string)", "a(enum(y), boolean)");
+        Expect.same(2, "a(list<long>, string)", "a(list<short>, boolean)");
+        Expect.same(2, "a(list<long>, string)", "a(list<long?>, boolean)");
+        Expect.same(2, "a(list<long>, string)", "a(list<[C]long>, boolean)");
+        Expect.same(2, "a(list<long>, string)", "a(list<long>?, boolean)");
+        Expect.same(2, "a(list<enum(x)>, string)", "a(list<enum(y)>, boolean)");
+        Expect.same(2, "a(long, string)", "a(optional long, optional boolean)");
+        Expect.same(2, "a(long, boolean, boolean)", "a(long, long)", "a(long, short)");
+        Expect.told("a(string, any)", "a(long, any)");
+        Expect.told("a(string, long)", "a(long, string, string)", "a(boolean, long)");
     }
 
     private static void countsOfArguments() {
-        told("a()", "a(long, long)", "a(long)");
-        same(0, "a()", "a()");
-        same(0, "a()", "a(optional long)");
-        same(0, "a()", "a(long...)");
-        same(0, "a(optional long)", "a(optional string)");
-        same(1, "a(long)", "a(long, optional long)");
-        same(1, "a(long)", "a(long, long...)");
-        same(1, "a(long, long...)", "a(long...)");
-        same(2, "a(long, optional long)", "a(long, long)");
-        same(3, "a(string, long, long)", "a(string, optional string, optional string, optional string)", "a(string, long, short)");
-        told("a(string, optional boolean)", "a(long)");
-        told("a(string...)", "a(long)");
-        told("a(string, string...)", "a(long, long...)");
-        same(3, "a(long, long, long)", "a(long...)");
-        same(3, "a(long, string...)", "a(long, boolean, string)", "a(boolean, long...)");
-        same(3, "a(long, string, string...)", "a(long, boolean, any)", "a(long, long, long)", "a(short, string, string)");
-        same(1, "a(long, string...)", "a(long, optional boolean)");
+        Expect.told("a()", "a(long, long)", "a(long)");
+        Expect.same(0, "a()", "a()");
+        Expect.same(0, "a()", "a(optional long)");
+        Expect.same(0, "a()", "a(long...)");
+        Expect.same(0, "a(optional long)", "a(optional string)");
+        Expect.same(1, "a(long)", "a(long, optional long)");
+        Expect.same(1, "a(long)", "a(long, long...)");
+        Expect.same(1, "a(long, long...)", "a(long...)");
+        Expect.same(2, "a(long, optional long)", "a(long, long)");
+        Expect.same(3, "a(string, long, long)", "a(string, optional string, optional string, optional string)", "a(string, long, short)");
+        Expect.told("a(string, optional boolean)", "a(long)");
+        Expect.told("a(string...)", "a(long)");
+        Expect.told("a(string, string...)", "a(long, long...)");
+        Expect.same(3, "a(long, long, long)", "a(long...)");
+        Expect.same(3, "a(long, string...)", "a(long, boolean, string)", "a(boolean, long...)");
+        Expect.same(3, "a(long, string, string...)", "a(long, boolean, any)", "a(long, long, long)", "a(short, string, string)");
+        Expect.same(1, "a(long, string...)", "a(long, optional boolean)");
         // n goes up to eight: the last ARGUMENT of a VARIADIC FORM comes again and again.
-        told("a(boolean, boolean, boolean, boolean, boolean)", "a(string, string...)");
-        same(5, "a(long, long, long, long, short)", "a(long, long, long, long, double)");
+        Expect.told("a(boolean, boolean, boolean, boolean, boolean)", "a(string, string...)");
+        Expect.same(5, "a(long, long, long, long, short)", "a(long, long, long, long, double)");
     }
 
     private static void moreThanTwo() {
-        told("a(long)", "a(string)", "a(boolean)", "a(list<long>)");
-        same(1, "a(long)", "a(string)", "a(boolean)", "a(enum(x))");
-        told("a(long, long)", "a(long, string)", "a(long, boolean)", "a(long, list<any>)");
-        same(2, "a(long, long)", "a(long, string)", "a(string, long)");
-        same(2, "a(string, long)", "a(boolean, long)", "a(string, boolean)");
-        told("a(long, string)", "a(long, boolean)", "a(string)");
-        told("a(long?)", "a(string)", "a(boolean)");
-        same(1, "a(long?)", "a(string)", "a(boolean?)");
+        Expect.told("a(long)", "a(string)", "a(boolean)", "a(list<long>)");
+        Expect.same(1, "a(long)", "a(string)", "a(boolean)", "a(enum(x))");
+        Expect.told("a(long, long)", "a(long, string)", "a(long, boolean)", "a(long, list<any>)");
+        Expect.same(2, "a(long, long)", "a(long, string)", "a(string, long)");
+        Expect.same(2, "a(string, long)", "a(boolean, long)", "a(string, boolean)");
+        Expect.told("a(long, string)", "a(long, boolean)", "a(string)");
+        Expect.told("a(long?)", "a(string)", "a(boolean)");
+        Expect.same(1, "a(long?)", "a(string)", "a(boolean?)");
     }
 
     private static void full() {
