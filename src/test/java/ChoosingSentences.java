@@ -110,6 +110,13 @@ final class ChoosingSentences {
         Expect.takes(x, 3, "'x'; null; null; null", Expect.list("x"), null, null, null);
         Expect.refuses(x, 0, "x");
         Expect.refuses(x, 0, "x", null, null);
+        // One with any, which is of no sort.
+        IdlCaller any = Check.with("a(any)", "a(any,list<any>)", "a([E]octet,any,any)");
+        for (Object value : new Object[] {UNDEFINED, null, true, 1.5, "x", Expect.list()}) {
+            Check.due("call with 1", Expect.call(any, new Object[] {value}), 0);
+            Check.due("call with 2", Expect.call(any, value, Expect.list()), 1);
+            Check.due("call with 3", Expect.call(any, 5.0, value, value), 2);
+        }
         Expect.refuses(x, 0, 1.0, null, null, null);
     }
 
@@ -134,8 +141,10 @@ final class ChoosingSentences {
         Expect.takes(last, 0, "true; true; true; true; 'x'", true, true, true, true, "x");
         Expect.takes(last, 1, "'x'; 'x'; 'x'; 'x'; true", "x", "x", "x", "x", true);
         IdlCaller eighth = Check.with("a(long,any...)", "a(string,any...)");
-        Expect.takes(eighth, 0, "w1; null; null; null; null; null; null; 'x'", 1.0, null, null, null, null, null, null, "x");
-        Expect.takes(eighth, 1, "'x'; null; null; null; null; null; null; d1.0", "x", null, null, null, null, null, null, 1.0);
+        Expect.takes(eighth, 0, "w1; null; null; null; null; null; null; 'x'", 1.0, null, null, null, null, null, null,
+                "x");
+        Expect.takes(eighth, 1, "'x'; null; null; null; null; null; null; d1.0", "x", null, null, null, null, null,
+                null, 1.0);
     }
 
     private static void optional() {
@@ -272,7 +281,8 @@ final class ChoosingSentences {
                 if (!one.equals(other)) {
                     IdlCaller x = Check.with("a(any," + one + ")", "a(any," + other + ")");
                     for (Object value : values) {
-                        Check.due("is there a FORM of " + one + ", " + other, Expect.call(x, null, value) >= 0 ? 1 : 0, 1);
+                        Check.due("is there a FORM of " + one + ", " + other, Expect.call(x, null, value) >= 0 ? 1 : 0,
+                                1);
                     }
                 }
             }
@@ -298,7 +308,8 @@ final class ChoosingSentences {
             }
             for (int i = 0; i < values.length; i++) {
                 int form = Expect.call(x, null, values[i]);
-                Check.due("FORM turned by " + turn + " for " + values[i], form < 0 ? form : (form + turn) % forms.length, due[i]);
+                Check.due("FORM turned by " + turn + " for " + values[i], form < 0 ? form
+                        : (form + turn) % forms.length, due[i]);
             }
         }
         Expect.same(1, "a(any,optional long)", "a(any,string...)");
@@ -326,7 +337,8 @@ final class ChoosingSentences {
     }
 
     private static void places() {
-        IdlCaller x = Check.with("a()", "b(any)", "c(any,any,any,any,any)", "d(any,any...)", "e(any,optional any,optional any)");
+        IdlCaller x = Check.with("a()", "b(any)", "c(any,any,any,any,any)", "d(any,any...)",
+                "e(any,optional any,optional any)");
         for (int n = 0; n <= 8; n++) {
             placesAre(x, 0, n, 0);
             placesAre(x, 1, n, n < 1 ? NONE : 1);

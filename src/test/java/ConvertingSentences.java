@@ -8,8 +8,8 @@ final class ConvertingSentences {
     private static final String[] WHOLE = {"byte", "octet", "short", "long"};
     private static final long[] LEAST = {-128, 0, -32768, -2147483648L};
     private static final long[] MOST = {127, 255, 32767, 2147483647L};
-    private static final String[] ALL = {"boolean", "byte", "[C]octet", "[E]short", "long", "double", "string", "enum(x)",
-        "list<long>"};
+    private static final String[] ALL = {"boolean", "byte", "[C]octet", "[E]short", "long", "double", "string",
+        "enum(x)", "list<long>"};
 
     private ConvertingSentences() {
     }
@@ -30,7 +30,8 @@ final class ConvertingSentences {
         all.holds(terms, "double: its NUMBER, KIND if it has none.", ConvertingSentences::doubles);
         all.holds(terms, "Others: its NUMBER, 0 if it has none (with [E]: KIND):", ConvertingSentences::withoutNumber);
         all.holds(terms, "cut to a whole number (to 0),", ConvertingSentences::cut);
-        all.holds(terms, "with [E] KIND if that is not in the bounds (byte -128 .. 127, octet 0 .. 255, short -32768 .. 32767,"
+        all.holds(terms,
+                "with [E] KIND if that is not in the bounds (byte -128 .. 127, octet 0 .. 255, short -32768 .. 32767,"
                 + " long -2147483648 .. 2147483647),", ConvertingSentences::enforced);
         all.holds(terms, "else its remainder by 2^8, 2^16, 2^32 that is within them;", ConvertingSentences::remainder);
         all.holds(terms, "with [C] not cut but rounded, halves to the even one,", ConvertingSentences::rounded);
@@ -39,7 +40,8 @@ final class ConvertingSentences {
         all.holds(terms, "a number's digits as below,", ConvertingSentences::digits);
         all.holds(terms, "of a LIST those of its VALUES with , between", ConvertingSentences::textOfList);
         all.holds(terms, "(nothing for undefined and null).", ConvertingSentences::nothingFor);
-        all.holds(terms, "NUMBER: of undefined none, of null 0, of a boolean 1 or 0,", ConvertingSentences::simpleNumbers);
+        all.holds(terms, "NUMBER: of undefined none, of null 0, of a boolean 1 or 0,",
+                ConvertingSentences::simpleNumbers);
         all.holds(terms, "of a text: blanks at both ends left out,", ConvertingSentences::blanksAtEnds);
         all.holds(terms, "nothing: 0;", ConvertingSentences::nothing);
         all.holds(terms, "0x (small) and hexadecimal digits (a .. f, A .. F),", ConvertingSentences::hexadecimal);
@@ -113,8 +115,10 @@ final class ConvertingSentences {
     }
 
     private static void any() {
-        Object[] values = {UNDEFINED, null, false, true, -0.125, "", "null", Expect.list(), Expect.list(UNDEFINED, null, true, 1.5, "x")};
-        String[] due = {"undefined", "null", "false", "true", "d-0.125", "''", "'null'", "[]", "[undefined null true d1.5 'x']"};
+        Object[] values = {UNDEFINED, null, false, true, -0.125, "", "null", Expect.list(), Expect.list(UNDEFINED, null,
+            true, 1.5, "x")};
+        String[] due = {"undefined", "null", "false", "true", "d-0.125", "''", "'null'", "[]",
+            "[undefined null true d1.5 'x']"};
         for (int i = 0; i < values.length; i++) {
             Expect.becomes("any", values[i], due[i]);
         }
@@ -140,11 +144,13 @@ final class ConvertingSentences {
             Expect.becomes("boolean", value, "false");
             Expect.becomes("list<boolean>", Expect.list(value), "[false]");
         }
-        for (Object value : new Object[] {0.125, -0.125, 1.0, -2147483648.0, " ", "0", "false", "undefined", "\u0001", true}) {
+        for (Object value : new Object[] {0.125, -0.125, 1.0, -2147483648.0, " ", "0", "false", "undefined", "\u0001",
+                true}) {
             Expect.becomes("boolean", value, "true");
             Expect.becomes("list<boolean>", Expect.list(value), "[true]");
         }
-        for (Object value : new Object[] {Expect.list(), Expect.list(false), Expect.list(0.0), Expect.list(""), Expect.list(UNDEFINED)}) {
+        for (Object value : new Object[] {Expect.list(), Expect.list(false), Expect.list(0.0), Expect.list(""),
+                Expect.list(UNDEFINED)}) {
             Expect.becomes("boolean", value, "true");
         }
     }
@@ -164,10 +170,14 @@ final class ConvertingSentences {
         for (String word : new String[] {"a", "abcdefgh", "abcdefg", "null", "true"}) {
             Expect.becomes("enum(a,abcdefgh,abcdefg,null,true)", word, "'" + word + "'");
         }
-        for (String other : new String[] {"", "b", "aa", "abcdef", "abcdefgi", "abcdefghi", "a ", " a", "A", "a,null", "abcdefghijkl",
-                "undefined", "false", "\u0001"}) {
+        for (String other : new String[] {"", "b", "aa", "abcdef", "abcdefgi", "abcdefghi", "a ", " a", "A", "a,null",
+                "abcdefghijkl", "undefined", "false", "\u0001"}) {
             Expect.becomes("enum(a,abcdefgh,abcdefg,null,true)", other, REFUSED);
         }
+        // Nor what would be a WORD if each character counted by its distance from the letters.
+        Expect.becomes("enum(a,ab,az)", "`a", REFUSED);
+        Expect.becomes("enum(a,ab,az)", "bB", REFUSED);
+        Expect.becomes("enum(a,ab,az)", "bZ", REFUSED);
         Expect.becomes("enum(a,null,true)", null, "'null'");
         Expect.becomes("enum(a,null,true)", true, "'true'");
         Expect.becomes("enum(a,null,true)", false, REFUSED);
@@ -395,7 +405,8 @@ final class ConvertingSentences {
         for (int i = 0; i < values.length; i++) {
             Expect.becomes("string", values[i], "'" + words[i] + "'");
             Expect.becomes("list<string>", Expect.list(values[i]), "['" + words[i] + "']");
-            Expect.becomes("enum(" + (i == 0 ? "x" : words[i]) + ")", values[i], i == 0 ? REFUSED : "'" + words[i] + "'");
+            Expect.becomes("enum(" + (i == 0 ? "x" : words[i]) + ")", values[i], i == 0 ? REFUSED
+                    : "'" + words[i] + "'");
         }
         Expect.becomes("string", Expect.list(true, false), "'true,false'");
     }
@@ -420,7 +431,8 @@ final class ConvertingSentences {
         double longest = -2147483647.875;
         Expect.becomes("string", Expect.list(longest, longest, longest, longest, longest),
                 "'-2147483647.875,-2147483647.875,-2147483647.875,-2147483647.875,-2147483647.875'");
-        Expect.becomes("string", Expect.list("abcdefghijkl", "bcdefghijklm", "cdefghijklmn", "defghijklmno", "efghijklmnop"),
+        Expect.becomes("string", Expect.list("abcdefghijkl", "bcdefghijklm", "cdefghijklmn", "defghijklmno",
+                "efghijklmnop"),
                 "'abcdefghijkl,bcdefghijklm,cdefghijklmn,defghijklmno,efghijklmnop'");
     }
 
@@ -526,7 +538,8 @@ final class ConvertingSentences {
         number("5", "d5.0");
         number("+0.5", "d0.5");
         number("-0.5", "d-0.5");
-        for (String none : new String[] {"+", "-", "++5", "--5", "+-5", "-+5", "5-", "5+", "*5", ",5", "/5", "5-5", "+ 5", "-.5", "+.5"}) {
+        for (String none : new String[] {"+", "-", "++5", "--5", "+-5", "-+5", "5-", "5+", "*5", ",5", "/5", "5-5",
+                "+ 5", "-.5", "+.5"}) {
             number(none, REFUSED);
         }
     }
@@ -558,8 +571,9 @@ final class ConvertingSentences {
     }
 
     private static void divided() {
-        String[] texts = {"0.1", "0.3", "0.7", "1.005", "2.675", "0.0000000001", "9.9999999999", "123456.78901", "12345.678901",
-            "99999999.999", "0.1234567891", "1234567890.1", "-0.1", "-3.333333333", "+0.57", "999999999999"};
+        String[] texts = {"0.1", "0.3", "0.7", "1.005", "2.675", "0.0000000001", "9.9999999999", "123456.78901",
+            "12345.678901", "99999999.999", "0.1234567891", "1234567890.1", "-0.1", "-3.333333333", "+0.57",
+            "999999999999"};
         for (String text : texts) {
             int point = text.indexOf('.');
             int behind = point < 0 ? 0 : text.length() - point - 1;
@@ -581,8 +595,8 @@ final class ConvertingSentences {
     }
 
     private static void elseNone() {
-        for (String text : new String[] {"x", "true", "null", "undefined", "Infinity", "-Infinity", "NaN", "1e3", "1E3", "0b1", "0o7",
-                "5f", "1,000", "1_000", "five", "$5", "5%", "\u00b2", "\u00bd"}) {
+        for (String text : new String[] {"x", "true", "null", "undefined", "Infinity", "-Infinity", "NaN", "1e3", "1E3",
+                "0b1", "0o7", "5f", "1,000", "1_000", "five", "$5", "5%", "\u00b2", "\u00bd"}) {
             number(text, REFUSED);
             Expect.becomes("long", text, "w0");
             Expect.becomes("[E]long", text, REFUSED);
@@ -625,8 +639,8 @@ final class ConvertingSentences {
     private static void wholePart() {
         text(0, "0");
         text(0.5, "0.5");
-        long[] wholes = {1, 9, 10, 11, 99, 100, 101, 999, 1000, 99999, 100000, 1000000, 10000000, 100000000, 999999999, 1000000000,
-            1000000001, 1234567890, 2000000000, 2147483646, 2147483647};
+        long[] wholes = {1, 9, 10, 11, 99, 100, 101, 999, 1000, 99999, 100000, 1000000, 10000000, 100000000, 999999999,
+            1000000000, 1000000001, 1234567890, 2000000000, 2147483646, 2147483647};
         for (long whole : wholes) {
             text(whole, "" + whole);
             text(whole + 0.5, whole + ".5");

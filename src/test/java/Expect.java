@@ -47,7 +47,8 @@ final class Expect {
         for (int i = 0; i < last; i++) {
             Check.due("define of " + forms[i] + " as " + i, Check.define(x, forms[i]), i);
         }
-        Check.due("define of " + forms[last] + " behind " + forms[last - 1], Check.define(x, forms[last]), IdlCaller.SAME);
+        Check.due("define of " + forms[last] + " behind " + forms[last - 1], Check.define(x, forms[last]),
+                IdlCaller.SAME);
         Check.due("n of " + forms[last], x.place(), n);
         Check.due("FORMS are as many as before", x.operation(forms[0].charAt(0) - 'a', 0), last);
     }
@@ -93,5 +94,20 @@ final class Expect {
         int form = x.call(0, 1);
         Check.due("place", x.place(), form == 0 ? IdlCaller.NONE : 0);
         Check.dueText(value + " as " + type, form == 0 ? Check.show(x, 0) : REFUSED, due);
+    }
+
+    interface WithNumber {
+        void on(IdlCaller x, int i);
+    }
+
+    /** A number that is told is taken, another one refused with IllegalArgument. */
+    static void argument(boolean told, int i, String what, Twins.Calls before, WithNumber call) {
+        IdlCaller x = new IdlCaller();
+        before.on(x);
+        if (told) {
+            call.on(x, i);
+        } else {
+            Check.refusesArgument(what + " with " + i, () -> call.on(x, i));
+        }
     }
 }

@@ -20,7 +20,8 @@ final class FormSentences {
         all.holds(terms, "and one is a boolean, a NUMBER, a STRING or a list, and the other one is not of that sort.",
                 FormSentences::sorts);
         all.holds(terms, "An OPERATION has up to six FORMS, 0 first.", FormSentences::sixForms);
-        all.holds(terms, "A FORM can be called with n ARGUMENTS, n being as many as it has,", FormSentences::asManyAsItHas);
+        all.holds(terms, "A FORM can be called with n ARGUMENTS, n being as many as it has,",
+                FormSentences::asManyAsItHas);
         all.holds(terms, "or less by optional and VARIADIC ones that are at its end,", FormSentences::lessByOptional);
         all.holds(terms, "or more, with a VARIADIC one again and again,", FormSentences::againAndAgain);
         all.holds(terms, "up to eight in all.", FormSentences::upToEight);
@@ -30,7 +31,8 @@ final class FormSentences {
         all.holds(terms, "all before it being the same (TYPE,", FormSentences::sameType);
         all.holds(terms, "of an enum the same WORDS in the same order,", FormSentences::sameWords);
         all.holds(terms, "and whether optional or VARIADIC, or not).", FormSentences::sameOptional);
-        all.holds(terms, "With more than two it must be the same one for all that can be called with n.", FormSentences::moreThanTwo);
+        all.holds(terms, "With more than two it must be the same one for all that can be called with n.",
+                FormSentences::moreThanTwo);
         all.holds(terms, "VALUES are undefined, null, a boolean, a number (a double),", FormSentences::plainValues);
         all.holds(terms, "a text of up to twelve characters (1 .. 255),", FormSentences::texts);
         all.holds(terms, "or a LIST of up to five VALUES", FormSentences::five);
@@ -197,7 +199,8 @@ final class FormSentences {
     private static void withOneN() {
         Expect.same(0, "a()", "a()");
         Expect.same(1, "a(long)", "a(long)");
-        Expect.told("a()", "a(long)", "a(long,long)", "a(long,long,long)", "a(long,long,long,long)", "a(long,long,long,long,long)");
+        Expect.told("a()", "a(long)", "a(long,long)", "a(long,long,long)", "a(long,long,long,long)",
+                "a(long,long,long,long,long)");
         Expect.told("a(long,optional long)", "a()", "a(long,long,long)");
         Expect.same(1, "a(long,optional long)", "a(long)");
         Expect.same(2, "a(long,optional long)", "a(long,long)");
@@ -296,7 +299,8 @@ final class FormSentences {
 
     private static void plainValues() {
         IdlCaller x = Check.with("a(any...)");
-        Expect.takes(x, 0, "null; false; true; d-0.125; 'x'; []; null", null, false, true, -0.125, "x", Expect.list(), null);
+        Expect.takes(x, 0, "null; false; true; d-0.125; 'x'; []; null", null, false, true, -0.125, "x", Expect.list(),
+                null);
         Expect.becomes("any", UNDEFINED, "undefined");
         Expect.becomes("any", 2147483648.0, "d2.147483648E9");
     }
@@ -400,6 +404,13 @@ final class FormSentences {
             Check.due("call with " + n, x.call(0, n), 0);
             Check.dueText("the first " + n, Check.showAll(x), due.toString());
         }
+        // What the SLOTS behind have is no matter.
+        IdlCaller optional = Check.with("a([E]octet,optional [E]octet)");
+        optional.number(0, 255);
+        optional.number(1, 256);
+        Check.due("call with 1", optional.call(0, 1), 0);
+        Check.dueText("the first one", Check.showAll(optional), "w255; missing");
+        Check.due("call with 2", optional.call(0, 2), IdlCaller.KIND);
     }
 
     private static void nUpToEight() {

@@ -29,7 +29,8 @@ final class LineSentences {
         all.holds(terms, "A WORD is one to eight letters a .. z;", LineSentences::word);
         all.holds(terms, "all WORDS of an enum are different (SIGN at the first letter of one that is not).",
                 LineSentences::different);
-        all.holds(terms, "All these words are letters a .. z that stand together (C and E are signs);", LineSentences::together);
+        all.holds(terms, "All these words are letters a .. z that stand together (C and E are signs);",
+                LineSentences::together);
         all.holds(terms, "optional and the names of TYPES stand alone", LineSentences::alone);
         all.holds(terms, "(they may be WORDS).", LineSentences::mayBeWords);
     }
@@ -45,6 +46,11 @@ final class LineSentences {
         x.number(0, 300);
         Check.due("call", x.call(0, 1), 0);
         Check.due("its TYPE is long", x.whole(0, IdlCaller.NONE), 300);
+        // All in one, twenty characters.
+        IdlCaller one = new IdlCaller();
+        Check.due("type", one.type(0x62287374, 0x72696e67, 0x2c6f6374, 0x65742c61, 0x6e793f3f), 20);
+        Check.due("define", one.define(), IdlCaller.SIGN);
+        Check.due("b(string,octet,any has no ?", one.place(), 18);
     }
 
     private static void hundred() {
@@ -62,8 +68,8 @@ final class LineSentences {
     }
 
     private static void blanks() {
-        String[] signs = {"a", "(", "optional", "[", "C", "]", "byte", "?", ",", "list", "<", "enum", "(", "x", ",", "y", ")",
-            "?", ">", "?", ".", ".", ".", ")"};
+        String[] signs = {"a", "(", "optional", "[", "C", "]", "byte", "?", ",", "list", "<", "enum", "(", "x", ",",
+            "y", ")", "?", ">", "?", ".", ".", ".", ")"};
         for (String between : new String[] {"", " ", "  "}) {
             // Only behind optional it is a matter of [ that no blank is needed.
             Expect.good(String.join(between, signs));
@@ -223,7 +229,8 @@ final class LineSentences {
 
     private static void bracketsBefore() {
         for (String mode : new String[] {"[C]", "[E]"}) {
-            for (String other : new String[] {"boolean", "double", "string", "any", "enum(x)", "list<long>", "optional long"}) {
+            for (String other : new String[] {"boolean", "double", "string", "any", "enum(x)", "list<long>",
+                    "optional long"}) {
                 Expect.stops("a(" + mode + "^" + other + ")");
                 Expect.stops("a(any," + mode + "^" + other + "...)");
             }
@@ -245,8 +252,8 @@ final class LineSentences {
             Expect.stops("a(^" + name.toUpperCase() + ")");
             Expect.stops("a(long," + "^" + name + name + ")");
         }
-        for (String other : new String[] {"float", "int", "char", "void", "undefined", "null", "number", "text", "enums(x)",
-                "enu(x)", "lists<long>", "lis<long>", "8", "?", "<long>", "(x)"}) {
+        for (String other : new String[] {"float", "int", "char", "void", "undefined", "null", "number", "text",
+                "enums(x)", "enu(x)", "lists<long>", "lis<long>", "8", "?", "<long>", "(x)"}) {
             Expect.stops("a(^" + other + ")");
         }
     }
@@ -300,7 +307,8 @@ final class LineSentences {
     }
 
     private static void nullable() {
-        String[] types = {"boolean", "byte", "[C]octet", "[E]short", "long", "double", "string", "enum(x)", "list<long>", "list<any>"};
+        String[] types = {"boolean", "byte", "[C]octet", "[E]short", "long", "double", "string", "enum(x)",
+            "list<long>", "list<any>"};
         for (String type : types) {
             Expect.good("a(" + type + "?)");
             Expect.good("a(" + type + "?...)");
@@ -324,7 +332,8 @@ final class LineSentences {
             Expect.becomes("enum(" + good + ")", good, "'" + good + "'");
             Expect.becomes("enum(" + good + ")", good + "a", Expect.REFUSED);
         }
-        for (String bad : new String[] {"", "abcdefghi", "aaaaaaaaa", "zzzzzzzzzzzz", "zzzzzzzzzzzzzzzzzzzzzzzzzzzzzz"}) {
+        for (String bad : new String[] {"", "abcdefghi", "aaaaaaaaa", "zzzzzzzzzzzz",
+                "zzzzzzzzzzzzzzzzzzzzzzzzzzzzzz"}) {
             Expect.stops("a(enum(^" + bad + "))");
             Expect.stops("a(enum(x,^" + bad + ",y))");
         }
@@ -382,7 +391,8 @@ final class LineSentences {
     }
 
     private static void mayBeWords() {
-        String[] names = {"optional", "boolean", "byte", "octet", "short", "long", "double", "string", "any", "enum", "list"};
+        String[] names = {"optional", "boolean", "byte", "octet", "short", "long", "double", "string", "any", "enum",
+            "list"};
         for (String name : names) {
             Expect.good("a(enum(" + name + "))");
             Expect.good("a(optional enum(x," + name + "),enum(" + name + ",y)...)");

@@ -4,7 +4,8 @@ import java.util.List;
 /** All promises: long runs of calls, made by dice that always fall alike, compared with Model. */
 public final class ModelTest {
     private static final int RUNS = 3000;
-    private static final int STEPS = 40;
+    /** Of one object; what later ones answer is free. */
+    private static final int CALLS = 512;
     private static final String[] PLAIN = {"boolean", "byte", "octet", "short", "long", "[C]byte", "[E]octet", "[C]long",
         "[E]long", "[E]short", "double", "string", "string", "enum(on,off)", "enum(a,b,c)", "any"};
     private static final String[] TEXTS = {"", " ", "on", "off", "a", "b", "true", "null", "5", "-5", "+7.50", "0x1f",
@@ -16,6 +17,8 @@ public final class ModelTest {
 
     private static long dice = 20261118;
     private static final int[] answers = new int[12];
+    /** How many calls the object of this run may still have. */
+    private static int left = 0;
 
     public static void main(String[] args) {
         for (int run = 0; run < RUNS; run++) {
@@ -47,25 +50,40 @@ public final class ModelTest {
         // Few OPERATIONS get full unless they are mostly defined.
         int defines = roll(3) == 0 ? 16 : 8;
         String told = "run " + number + ": ";
-        for (int step = 0; step < STEPS; step++) {
-            int turn = roll(20);
-            if (turn < defines) {
-                define(told, x, model, operations);
-            } else if (turn < 13) {
-                for (int slot = 0; slot < 8; slot++) {
-                    tell(x, model, slot);
-                }
-            } else if (turn < 19) {
-                call(told, x, model, roll(operations));
-            } else if (roll(3) == 0) {
-                int operation = roll(operations);
-                Check.due(told + "drop", x.drop(operation), model.operations.get(operation).size());
-                model.operations.get(operation).clear();
+        left = CALLS;
+        // At the end, and at the end of each step, something is asked.
+        spend(12);
+        while (left > 0) {
+            step(told, x, model, operations, defines);
+            if (spend(1)) {
+                Check.due(told + "place", x.place(), model.place);
             }
-            Check.due(told + "place", x.place(), model.place);
         }
         for (int what = 0; what < 12; what++) {
             Check.due(told + "operation 0, " + what, x.operation(0, what), model.operation(0, what));
+        }
+    }
+
+    /** Whether there are so many calls left; if not the run is at its end. */
+    private static boolean spend(int calls) {
+        left -= calls;
+        return left >= 0;
+    }
+
+    private static void step(String told, IdlCaller x, Model model, int operations, int defines) {
+        int turn = roll(20);
+        if (turn < defines) {
+            define(told, x, model, operations);
+        } else if (turn < 13) {
+            for (int slot = 0; slot < 8; slot++) {
+                tell(x, model, slot);
+            }
+        } else if (turn < 19) {
+            call(told, x, model, roll(operations));
+        } else if (roll(3) == 0 && spend(1)) {
+            int operation = roll(operations);
+            Check.due(told + "drop", x.drop(operation), model.operations.get(operation).size());
+            model.operations.get(operation).clear();
         }
     }
 
@@ -82,6 +100,10 @@ public final class ModelTest {
             form = form.replace(",", " , ").replace("(", "( ");
         }
         form = form.substring(0, Math.min(form.length(), 100));
+        // An erase, a type of nothing, one for each twenty characters, define and place.
+        if (!spend(4 + (form.length() + 19) / 20)) {
+            return;
+        }
         model.line.setLength(0);
         model.line.append(form);
         int due = model.define();
@@ -122,8 +144,11 @@ public final class ModelTest {
     private static void tell(IdlCaller x, Model model, int slot) {
         if (roll(5) == 0 && slot < 7) {
             List<Object> values = new ArrayList<>();
-            x.simple(slot, 4);
             int size = roll(3) == 0 ? roll(6) : roll(2);
+            if (!spend(1 + 2 * size)) {
+                return;
+            }
+            x.simple(slot, 4);
             for (int i = 0; i < size; i++) {
                 Object value = value();
                 tellPlain(x, 7, value);
@@ -131,7 +156,7 @@ public final class ModelTest {
                 Check.due("add", x.add(slot, 7), values.size());
             }
             model.slots.set(slot, values);
-        } else {
+        } else if (spend(1)) {
             Object value = value();
             tellPlain(x, slot, value);
             model.slots.set(slot, value);
@@ -162,10 +187,17 @@ public final class ModelTest {
 
     private static void call(String told, IdlCaller x, Model model, int operation) {
         int n = roll(3) == 0 ? roll(9) : Math.max(0, Math.min(8, model.most(operation) - roll(2)));
+        if (!spend(2)) {
+            return;
+        }
         int due = model.call(operation, n);
         count(due, 5);
         Check.due(told + "call(" + operation + ", " + n + ")", x.call(operation, n), due);
         Check.due(told + "place of the call", x.place(), model.place);
-        Check.dueText(told + "what was converted", Check.showAll(x).replace("d-0.0", "d0.0"), model.showAll());
+        // To show a place takes no more calls than it has characters, and at the end it is asked whether there is one more.
+        String converted = model.showAll();
+        if (spend(3 + converted.length())) {
+            Check.dueText(told + "what was converted", Check.showAll(x).replace("d-0.0", "d0.0"), converted);
+        }
     }
 }

@@ -5,8 +5,9 @@ import java.util.Map;
 final class RefusalSentences {
     private static final int MIN = Integer.MIN_VALUE;
     private static final int MAX = Integer.MAX_VALUE;
-    private static final int[] FAR = {MIN, MIN + 1, -65536, -256, -129, -128, -100, -13, -9, -8, -7, -6, -5, -4, -3, -2, -1, 0, 1, 2, 3, 4, 5,
-        6, 7, 8, 9, 10, 11, 12, 13, 16, 32, 100, 127, 128, 255, 256, 257, 512, 65536, 1 << 24, MAX - 1, MAX};
+    private static final int[] FAR = {MIN, MIN + 1, -65536, -256, -129, -128, -100, -13, -9, -8, -7, -6, -5, -4, -3, -2,
+        -1, 0, 1, 2, 3, 4, 5, 6, 7, 8, 9, 10, 11, 12, 13, 16, 32, 100, 127, 128, 255, 256, 257, 512, 65536, 1 << 24,
+        MAX - 1, MAX};
 
     private RefusalSentences() {
     }
@@ -15,9 +16,11 @@ final class RefusalSentences {
         String terms = "Terms";
         all.holds(terms, "A call that is refused changes nothing but place;", RefusalSentences::refused);
         all.holds(terms, "what throws changes nothing (place, too).", RefusalSentences::thrown);
-        all.holds(terms, "IllegalArgument is thrown where a number is none of those told here.", RefusalSentences::noneOfThoseTold);
+        all.holds(terms, "IllegalArgument is thrown where a number is none of those told here.",
+                RefusalSentences::noneOfThoseTold);
         String face = "The public face";
-        all.holds(face, "public int type(int a, int b, int c, int d, int e) throws IllegalStateException;", RefusalSentences::typeThrows);
+        all.holds(face, "public int type(int a, int b, int c, int d, int e) throws IllegalStateException;",
+                RefusalSentences::typeThrows);
         all.holds(face, "public int erase();", () -> never(x -> x.erase()));
         all.holds(face, "public int define();", RefusalSentences::defineThrows);
         all.holds(face, "public int drop(int operation) throws IllegalArgumentException;",
@@ -36,18 +39,22 @@ final class RefusalSentences {
         all.holds(face, "public int operation(int operation, int what) throws IllegalArgumentException;",
                 () -> onlyArgument((x, i, j) -> x.operation(i, j), 0, 5, 0, 11));
         all.holds(face, "public int kind(int k);", () -> onlyArgument((x, i, j) -> x.kind(i), MIN, MAX, MIN, MAX));
-        all.holds(face, "public int item(int k, int i);", () -> onlyArgument((x, i, j) -> x.item(i, j), MIN, MAX, MIN, MAX));
-        all.holds(face, "public long whole(int k, int i);", () -> onlyArgument((x, i, j) -> x.whole(i, j), MIN, MAX, MIN, MAX));
-        all.holds(face, "public double real(int k, int i);", () -> onlyArgument((x, i, j) -> x.real(i, j), MIN, MAX, MIN, MAX));
+        all.holds(face, "public int item(int k, int i);", () -> onlyArgument((x, i, j) -> x.item(i, j), MIN, MAX, MIN,
+                MAX));
+        all.holds(face, "public long whole(int k, int i);", () -> onlyArgument((x, i, j) -> x.whole(i, j), MIN, MAX,
+                MIN, MAX));
+        all.holds(face, "public double real(int k, int i);", () -> onlyArgument((x, i, j) -> x.real(i, j), MIN, MAX,
+                MIN, MAX));
         all.holds(face, "public char sign(int k, int i, int c);", RefusalSentences::signThrows);
-        all.holds("What it is", "An object is used for at most 512 calls after it has been made;", RefusalSentences::fiveHundredAndTwelve);
+        all.holds("What it is", "An object is used for at most 512 calls after it has been made;",
+                RefusalSentences::fiveHundredAndTwelve);
     }
 
     // What is refused.
 
     private static void refused() {
-        String[] lines = {"^", "  ^", "^g()", "a(^", "a(^lon)", "a(any^?)", "b(long,long,long^", "a(optional long,any^)", "a(enum(x,^x))",
-            "f(long,long,long,long,long^,long)", "d()^)", "a([E]^any)"};
+        String[] lines = {"^", "  ^", "^g()", "a(^", "a(^lon)", "a(any^?)", "b(long,long,long^",
+            "a(optional long,any^)", "a(enum(x,^x))", "f(long,long,long,long,long^,long)", "d()^)", "a([E]^any)"};
         for (String line : lines) {
             defineIsRefused(IdlCaller.SIGN, line.replace("^", ""), line.indexOf('^'));
         }
@@ -174,7 +181,8 @@ final class RefusalSentences {
                 wrong.put("simple of " + slot + ", what = " + i, x -> x.simple(told, i));
             }
         }
-        for (double value : new double[] {2147483648.125, -2147483648.125, 0.0625, 1e300, Double.NaN, Double.NEGATIVE_INFINITY}) {
+        for (double value : new double[] {2147483648.125, -2147483648.125, 0.0625, 1e300, Double.NaN,
+                Double.NEGATIVE_INFINITY}) {
             for (int slot = 0; slot < 8; slot++) {
                 int told = slot;
                 wrong.put("number of " + slot + ", " + value, x -> x.number(told, value));
@@ -282,7 +290,8 @@ final class RefusalSentences {
                 IdlCaller x = new IdlCaller();
                 Check.typeMore(x, front + (char) sign);
                 boolean good = x.define() >= 0;
-                Check.due("define of " + front + " and " + sign, good ? 1 : 0, sign == ')' && front.equals("a(long") || sign == ')' && front.equals("a(") ? 1 : 0);
+                boolean due = sign == ')' && (front.equals("a(") || front.equals("a(long"));
+                Check.due("define of " + front + " and " + sign, good ? 1 : 0, due ? 1 : 0);
                 IdlCaller many = new IdlCaller();
                 Check.typeMore(many, front + ("" + (char) sign).repeat(100 - front.length()));
                 Check.due("define of " + front + " and many of " + sign, many.define(), IdlCaller.SIGN);

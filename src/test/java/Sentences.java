@@ -36,7 +36,8 @@ final class Sentences {
             }
             String heading = section.substring(0, end).replaceAll(":.*", "");
             // A promise begins with the method's head, which FaceTest looks at.
-            String text = folded(section.substring(end).replaceFirst("^\\s*`[^`]*`: ", "").replaceAll("```(text)?", ""));
+            String text = folded(section.substring(end).replaceFirst("^\\s*`[^`]*`: ", "").replaceAll("```(text)?",
+                    ""));
             sections.put(heading, text);
             quoted.put(heading, new boolean[text.length()]);
         }

@@ -8,6 +8,7 @@ public final class SentencesTest {
         ConvertingSentences.tell(all);
         RefusalSentences.tell(all);
         PromiseSentences.tell(all);
+        AnswerSentences.tell(all);
         all.end("SentencesTest");
     }
 }

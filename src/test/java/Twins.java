@@ -53,8 +53,9 @@ final class Twins {
 
     /** All is told: a LINE that is a FORM, six FORMS and fewer, VALUES of every sort, places converted. */
     static void told(IdlCaller x) {
-        for (String form : new String[] {"a()", "a([E]octet)", "a(string)", "a(list<any>)", "a(any,enum(on,off),[E]long)",
-                "a(any,enum(on,off),string?)", "b(optional long,any...)", "c(long?)", "c(boolean,any)", "f(double)"}) {
+        for (String form : new String[] {"a()", "a([E]octet)", "a(string)", "a(list<any>)",
+                "a(any,enum(on,off),[E]long)", "a(any,enum(on,off),string?)", "b(optional long,any...)", "c(long?)",
+                "c(boolean,any)", "f(double)"}) {
             Check.define(x, form);
         }
         Check.due("FORMS of a", x.operation(0, 0), 6);
@@ -67,7 +68,8 @@ final class Twins {
         Check.tell(x, 7, "abcdefghijkl");
         Check.due("call", x.call(1, 8), 0);
         x.erase();
-        Check.due("LINE", Check.typeMore(x, "c(string,any,long , [C]byte?, optional enum(abcdefgh,bcdefghi)?          )"), 74);
+        Check.due("LINE", Check.typeMore(x,
+                "c(string,any,long , [C]byte?, optional enum(abcdefgh,bcdefghi)?          )"), 74);
     }
 
     /** The same, with a place. */
