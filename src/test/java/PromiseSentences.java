@@ -532,6 +532,9 @@ final class PromiseSentences {
     }
 
     private static void placeAtFirst() {
+        IdlCaller another = new IdlCaller();
+        Check.due("call of another object", another.call(0, 5), KIND);
+        Check.due("place of another object", another.place(), 5);
         IdlCaller x = new IdlCaller();
         Check.due("place", x.place(), NONE);
         everyOtherCall(x, NONE);
